@@ -126,7 +126,7 @@ public final class AgainstModelTest {
             case "pays":
                 return place == 0 ? random.nextInt(7) : random.nextInt(random.nextInt(4) == 0 ? 1001 : 40);
             case "lots":
-                return place == 0 ? random.nextInt(22) : place == 1 ? random.nextInt() : random.nextInt(2);
+                return place == 0 ? random.nextInt(22) : place == 1 ? random.nextInt() : random.nextInt(3);
             case "row":
                 return random.nextInt(3) == 0 ? 9 : random.nextInt(random.nextInt(3) == 0 ? 101 : 7);
             case "count":
@@ -135,11 +135,11 @@ public final class AgainstModelTest {
                 return place == 2 ? random.nextInt(11) : random.nextInt(7);
             case "stutter":
                 return place == 2 ? random.nextInt(8) : place == 3 ? 2 + random.nextInt(19)
-                        : place == 4 ? random.nextInt(2) : random.nextInt(6);
+                        : place == 4 ? random.nextInt(3) : random.nextInt(6);
             case "cardThen":
             case "bidderThen":
                 return place == 1 ? random.nextInt(random.nextInt(3) == 0 ? 62 : 5)
-                        : random.nextInt(place == 2 ? 2 : 7);
+                        : random.nextInt(place == 2 ? 3 : 7);
             case "pileThen":
                 return random.nextInt(random.nextInt(3) == 0 ? 62 : 5);
             case "first":
@@ -149,7 +149,9 @@ public final class AgainstModelTest {
                 return random.nextInt(random.nextInt(3) == 0 ? 22 : 5);
             case "mean":
             case "stay":
-                return random.nextInt(2);
+                return random.nextInt(3);
+            case "card":
+                return random.nextInt(9);
             default:
                 return random.nextInt(7);
         }

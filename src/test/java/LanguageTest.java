@@ -86,7 +86,7 @@ public final class LanguageTest {
             if (line.contains("new ") && !line.matches(" +\\w+ = new (Hall\\(\\)|int\\[[A-Z0-9]+\\]);")) {
                 fault("something is made: " + line.trim());
             }
-            Matcher divisor = Pattern.compile(" [/%] (\\S+?)[;), ]").matcher(line);
+            Matcher divisor = Pattern.compile("(?<= )[/%] (\\S+?)(?=[;), ])").matcher(line);
             while (divisor.find()) {
                 if (!divisor.group(1).matches("\\d+|DEAL|rest|common")) {
                     fault("a divisor not looked at: " + line.trim());

@@ -414,6 +414,11 @@ public final class PromisesTest {
         due(0, y.bidder(1, 3));
         due(-9, told("cg91;cg91;cg91;bb0999;bb0000;").ruined(1));
         due(-1, y.ruined(-1));
+        // Three are paid with 1 each in the first month; in the second both have 5, and the least gets the last.
+        LiesBoughtBack z = told("cg91;cg91;cg91;cg91;bb0003;bb0000;");
+        due(2, z.ruined(1));
+        due(11, z.bidderThen(1, 1, 1));
+        due(3, z.bidder(0, 2));
     }
 
     private static void got() {
