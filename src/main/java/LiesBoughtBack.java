@@ -104,8 +104,9 @@ public final class LiesBoughtBack {
         if (!now.hasBidder(bidder)) {
             return refuse(NOBODY);
         }
-        if (beyond(v, 0, TOP_PURSE) != 0) {
-            return refuse(beyond(v, 0, TOP_PURSE));
+        int amiss = beyond(v, 0, TOP_PURSE);
+        if (amiss != 0) {
+            return refuse(amiss);
         }
         int was = at(now.purse, bidder);
         put(now.purse, bidder, v);
@@ -158,8 +159,9 @@ public final class LiesBoughtBack {
         if (kind < 0 || kind >= KINDS) {
             return refuse(OTHER);
         }
-        if (beyond(figure, 0, 9) != 0) {
-            return refuse(beyond(figure, 0, 9));
+        int amiss = beyond(figure, 0, 9);
+        if (amiss != 0) {
+            return refuse(amiss);
         }
         int was = 10 * at(now.bidderKind, bidder) + at(now.bidderFigure, bidder);
         put(now.bidderKind, bidder, kind);
@@ -315,8 +317,9 @@ public final class LiesBoughtBack {
         if (!now.hasCard(card)) {
             return refuse(NOBODY);
         }
-        if (beyond(n, 0, TOP_MONTHS) != 0) {
-            return refuse(beyond(n, 0, TOP_MONTHS));
+        int amiss = beyond(n, 0, TOP_MONTHS);
+        if (amiss != 0) {
+            return refuse(amiss);
         }
         mind.become(now);
         mind.goOn(n, true);
@@ -327,8 +330,9 @@ public final class LiesBoughtBack {
         if (!now.hasBidder(bidder)) {
             return refuse(NOBODY);
         }
-        if (beyond(n, 0, TOP_MONTHS) != 0) {
-            return refuse(beyond(n, 0, TOP_MONTHS));
+        int amiss = beyond(n, 0, TOP_MONTHS);
+        if (amiss != 0) {
+            return refuse(amiss);
         }
         if (what < 0 || what > 1) {
             return refuse(OTHER);
@@ -339,8 +343,9 @@ public final class LiesBoughtBack {
     }
 
     public int pileThen(int n) {
-        if (beyond(n, 0, TOP_MONTHS) != 0) {
-            return refuse(beyond(n, 0, TOP_MONTHS));
+        int amiss = beyond(n, 0, TOP_MONTHS);
+        if (amiss != 0) {
+            return refuse(amiss);
         }
         mind.become(now);
         mind.goOn(n, true);
@@ -387,8 +392,9 @@ public final class LiesBoughtBack {
     }
 
     public int lots(int n, int z, int what) {
-        if (beyond(n, 1, TOP_PLAN) != 0) {
-            return refuse(beyond(n, 1, TOP_PLAN));
+        int amiss = beyond(n, 1, TOP_PLAN);
+        if (amiss != 0) {
+            return refuse(amiss);
         }
         if (what < 0 || what > 1) {
             return refuse(OTHER);
@@ -456,8 +462,9 @@ public final class LiesBoughtBack {
         if (!now.hasBidder(bidder)) {
             return refuse(NOBODY);
         }
-        if (beyond(n, 0, TOP_PLAN) != 0) {
-            return refuse(beyond(n, 0, TOP_PLAN));
+        int amiss = beyond(n, 0, TOP_PLAN);
+        if (amiss != 0) {
+            return refuse(amiss);
         }
         mind.become(now);
         mind.goOn(n, true);
@@ -479,8 +486,9 @@ public final class LiesBoughtBack {
     }
 
     public int give(int n) {
-        if (beyond(n, 0, TOP_PLAN) != 0) {
-            return refuse(beyond(n, 0, TOP_PLAN));
+        int amiss = beyond(n, 0, TOP_PLAN);
+        if (amiss != 0) {
+            return refuse(amiss);
         }
         mind.become(now);
         mind.goOn(n, true);
@@ -506,8 +514,9 @@ public final class LiesBoughtBack {
         if (!now.hasBidder(bidder)) {
             return refuse(NOBODY);
         }
-        if (beyond(n, 0, TOP_PLAN) != 0) {
-            return refuse(beyond(n, 0, TOP_PLAN));
+        int amiss = beyond(n, 0, TOP_PLAN);
+        if (amiss != 0) {
+            return refuse(amiss);
         }
         mind.become(now);
         mind.goOn(n, true);

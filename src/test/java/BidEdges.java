@@ -59,7 +59,8 @@ final class BidEdges {
     private static void worthsOfAge() {
         edges.by(4, "o OLD under LIE: less by a third, cut, of AGE.");
         int[][] olds = {{0, 3, 4, 5, 6, 7, 8, 9, 10, 11, 12}, {2, 3, 4, 5, 6, 7, 8, 9, 10, 11, 12},
-            {3, 2, 3, 4, 5, 6, 7, 8, 9, 10, 11}, {5, 2, 3, 4, 5, 6, 7, 8, 9, 10, 11}, {6, 1, 2, 3, 4, 5, 6, 7, 8, 9, 10},
+            {3, 2, 3, 4, 5, 6, 7, 8, 9, 10, 11}, {5, 2, 3, 4, 5, 6, 7, 8, 9, 10, 11},
+            {6, 1, 2, 3, 4, 5, 6, 7, 8, 9, 10},
             {8, 1, 2, 3, 4, 5, 6, 7, 8, 9, 10}, {9, 0, 1, 2, 3, 4, 5, 6, 7, 8, 9}, {12, 0, 0, 1, 2, 3, 4, 5, 6, 7, 8},
             {33, 0, 0, 0, 0, 0, 0, 0, 0, 0, 1}, {35, 0, 0, 0, 0, 0, 0, 0, 0, 0, 1}, {36, 0, 0, 0, 0, 0, 0, 0, 0, 0, 0},
             {39, 0, 0, 0, 0, 0, 0, 0, 0, 0, 0}, {99, 0, 0, 0, 0, 0, 0, 0, 0, 0, 0}};
@@ -140,8 +141,8 @@ final class BidEdges {
     }
 
     private static void enemyBids() {
-        edges.by(6, "e ENEMY under BIDDER: twice, if somebody else who is there TOLD it and is BELIEVED more than he is, "
-                + "else as a BIDDER.");
+        edges.by(6, "e ENEMY under BIDDER: twice, if somebody else who is there TOLD it and is BELIEVED more than "
+                + "he is, else as a BIDDER.");
         // A white one is told by each in turn: by the enemy, who is believed 1 less when it is sold; by the teller.
         String cards = "cl20;cl22;cl21;";
         String all = "bb0000;be3099;br0099;";
@@ -166,6 +167,10 @@ final class BidEdges {
         edges.due(2, gone.bids(1, 0));
         Edges.tell(gone, "bb0000;");
         edges.due(4, gone.bids(1, 0));
+        Edges.tell(more, "cg90;cl30;cl00;");
+        edges.due(48, more.bids(1, 4));
+        edges.due(6, more.bids(1, 5));
+        edges.due(2, more.bids(1, 6));
         more.pays(1, 3);
         edges.due(3, more.bids(1, 0));
     }
@@ -258,8 +263,8 @@ final class BidEdges {
     }
 
     private static void whatIsPaid() {
-        edges.by(11, "he pays what the next most is (of all others; 0 without) and 1, or his most, if that is less: "
-                + "PURSE less by it.");
+        edges.by(11, "he pays what the next most is (of all others; 0 without) and 1, or his most, if that is "
+                + "less: PURSE less by it.");
         duel(0, 1, 58);
         duel(0, 1, 999);
         duel(0, 1, 2, 0);
@@ -312,7 +317,8 @@ final class BidEdges {
     }
 
     private static void believedLess() {
-        edges.by(11, "else the TELLER, if he is there, is BELIEVED less by what it is worth by 4, cut, and 1 (0 at least).");
+        edges.by(11, "else the TELLER, if he is there, is BELIEVED less by what it is worth by 4, cut, and 1 (0 "
+                + "at least).");
         String[] cards = {"cw91;", "ck01;", "cl01;", "cl11;", "cl41;", "cl51;", "cl81;", "cl91;", "cg01;", "cg91;"};
         int[] believed = {49, 49, 49, 48, 48, 47, 47, 46, 46, 37};
         for (int i = 0; i < cards.length; i++) {
@@ -341,7 +347,8 @@ final class BidEdges {
 
     private static void nobodyBids() {
         edges.by(11, "Nobody bids: it stays IN THE PILE.");
-        String[][] halls = {{"cl00;"}, {"cl00;", "bf0000;"}, {"cw05;", "bb9999;bs9999;be9999;bh9999;"}, {"ck05;", "bb9999;"}};
+        String[][] halls = {{"cl00;"}, {"cl00;", "bf0000;"}, {"ck05;", "bb9999;"},
+            {"cw05;", "bb9999;bs9999;be9999;bh9999;"}};
         for (String[] hall : halls) {
             LiesBoughtBack x = Edges.told(hall);
             edges.due(-9, x.sells(0));
@@ -350,7 +357,8 @@ final class BidEdges {
     }
 
     private static void monthsOrder() {
-        edges.by(13, "A MONTH: MONTH is 1 more; CARDS by THE ORDER, each IN THE PILE, are AUCTIONED one behind the other");
+        edges.by(13, "A MONTH: MONTH is 1 more; CARDS by THE ORDER, each IN THE PILE, are AUCTIONED one behind "
+                + "the other");
         // With 1 in the purse the first by the order is bought, and no more.
         for (int first = 0; first < 3; first++) {
             LiesBoughtBack x = Edges.told("cl00;cl00;cl00;bb0001;");
@@ -377,7 +385,8 @@ final class BidEdges {
     }
 
     private static void monthsEnd() {
-        edges.by(13, "then AGE of each still IN THE PILE is 1 more (99 at most), PURSE of each BIDDER 5 more (999 at most).");
+        edges.by(13, "then AGE of each still IN THE PILE is 1 more (99 at most), PURSE of each BIDDER 5 more (999 "
+                + "at most).");
         LiesBoughtBack x = Edges.told("cl00;cw05;cl00;bb0003;bs0993;bs0994;bs0995;bs0999;bs0000;g25;");
         edges.due(2, x.months(1));
         // Sold, left, held.

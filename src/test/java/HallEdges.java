@@ -2,7 +2,7 @@
 final class HallEdges {
     private static final String DIGITS = "0123456789";
     private static final String FIRSTS = "cbpxrgm";
-    /** A statement of each form that comes to a hall of two cards and a bidder; behind it what may stand at its places. */
+    /** A statement of each form that comes to the small hall; behind it what may stand at its places. */
     private static final String[][] FORMS = {
         {"cl00;", "c", "lkgowt", DIGITS, DIGITS, ";"},
         {"bb0000;", "b", "bserhf", DIGITS, DIGITS, DIGITS, DIGITS, ";"},
@@ -31,6 +31,7 @@ final class HallEdges {
         allOrNothing();
     }
 
+    /** Two cards and a bidder. */
     private static LiesBoughtBack small() {
         return Edges.told("cl00;cl00;bb0000;");
     }
@@ -77,10 +78,20 @@ final class HallEdges {
         }
         Edges.tell(x, "bb0000;bb0000;bb0000;bb0000;bb0000;bb0000;g05;");
         edges.due(5, x.card(0, 4));
+        // What comes where there was another, ahead of the image, is as new.
+        x = new LiesBoughtBack();
+        x.image();
+        Edges.tell(x, "cl00;cl00;x01;m60;bb0009;g00;");
+        x.on();
+        Edges.tell(x, "cl01;");
+        edges.due(0, x.card(0, 3));
+        edges.due(-9, x.card(0, 4));
+        edges.due(0, x.card(0, 6));
     }
 
     private static void bidders() {
-        edges.by(3, "BIDDERS 0 .. as they come (6 at most): KIND, FIGURE, PURSE (0 .. 999), BELIEVED (0 .. 99; 50 at first).");
+        edges.by(3, "BIDDERS 0 .. as they come (6 at most): KIND, FIGURE, PURSE (0 .. 999), BELIEVED (0 .. 99; 50 "
+                + "at first).");
         LiesBoughtBack x = Edges.told("bb0000;bf9999;be0001;bb0998;");
         edges.due(0, x.bidder(0, 0));
         edges.due(5, x.bidder(1, 0));
@@ -140,8 +151,8 @@ final class HallEdges {
         edges.due(0, x.bidder(0, 2));
         edges.due(-9, x.card(0, 4));
         edges.due(1, x.letter(';'));
-        edges.by(3, "The letters become a HALL, and are no more (with a FAULT neither): how many STATEMENTS; "
-                + "the FAULT (nothing is counted).");
+        edges.by(3, "The letters become a HALL, and are no more (with a FAULT neither): how many STATEMENTS; the "
+                + "FAULT (nothing is counted).");
         x = small();
         edges.due(0, x.count(7));
         edges.due(-1000, x.hall());
@@ -159,11 +170,11 @@ final class HallEdges {
 
     /** Every letter at every place of every form of a statement. */
     private static void forms() {
-        edges.by(3, "STATEMENTS, each with \";\" behind: \"c\" a letter of a KIND of CARDS, FIGURE, a TELLER (a digit each): a CARD more; "
-                + "\"b\" a letter of a KIND of BIDDERS, FIGURE (a digit), PURSE (3 digits): a BIDDER more; "
-                + "\"p\" a BIDDER (a digit), PURSE (3 digits); \"x\" two CARDS (a digit each): they change places in THE ORDER; "
-                + "\"r\" a CARD (a digit): it is IN THE PILE again; \"g\" a CARD, a BIDDER (a digit each): he HOLDS it; "
-                + "\"m\" MONTHS (2 digits, 1 .. 60): they go by.");
+        edges.by(3, "STATEMENTS, each with \";\" behind: \"c\" a letter of a KIND of CARDS, FIGURE, a TELLER (a "
+                + "digit each): a CARD more; \"b\" a letter of a KIND of BIDDERS, FIGURE (a digit), PURSE (3 "
+                + "digits): a BIDDER more; \"p\" a BIDDER (a digit), PURSE (3 digits); \"x\" two CARDS (a digit "
+                + "each): they change places in THE ORDER; \"r\" a CARD (a digit): it is IN THE PILE again; \"g\" "
+                + "a CARD, a BIDDER (a digit each): he HOLDS it; \"m\" MONTHS (2 digits, 1 .. 60): they go by.");
         for (char c = 0; c <= 255; c++) {
             edges.due(FIRSTS.indexOf(c) >= 0 ? -1001 : -1000, Edges.tell(small(), String.valueOf(c)));
         }
@@ -205,8 +216,8 @@ final class HallEdges {
     }
 
     private static void firstKind() {
-        edges.by(3, "kind 1 the place of the first letter with which no HALL can go on (the end, if something lacks): "
-                + "-1000 less the place");
+        edges.by(3, "kind 1 the place of the first letter with which no HALL can go on (the end, if something "
+                + "lacks): -1000 less the place");
         String most = "r0;".repeat(32);
         for (int place = 0; place <= 95; place++) {
             edges.due(-1000 - place, Edges.tell(small(), most.substring(0, place) + "!" + most.substring(place + 1)));
@@ -220,8 +231,8 @@ final class HallEdges {
     }
 
     private static void secondKind() {
-        edges.by(3, "else kind 2 the place of the first letter of the first STATEMENT that, behind all ahead of it in the text, "
-                + "is not as it must be");
+        edges.by(3, "else kind 2 the place of the first letter of the first STATEMENT that, behind all ahead of "
+                + "it in the text, is not as it must be");
         for (int good = 0; good <= 31; good++) {
             edges.due(-2000 - 3 * good, Edges.tell(small(), "r0;".repeat(good) + "r9;"));
         }
@@ -243,7 +254,8 @@ final class HallEdges {
     }
 
     private static void numbersOutOfRange() {
-        edges.by(3, "(a number out of range, no such CARD, BIDDER so far, one CARD twice, MONTH above 999, no room for more)");
+        edges.by(3, "(a number out of range, no such CARD, BIDDER so far, one CARD twice, MONTH above 999, no "
+                + "room for more)");
         dueForEach(new String[] {"cl00;", "cl95;", "bb0000;", "bb9999;", "p0999;", "m01;", "m60;"}, 1);
         dueForEach(new String[] {"cl06;", "cl07;", "cl08;", "cl09;", "m00;", "m61;", "m70;", "m99;"}, -2000);
     }

@@ -49,8 +49,8 @@ final class PromiseEdges {
     }
 
     private static void card() {
-        edges.by(4, "Of a CARD: 0 KIND (0 l, 1 k, 2 g, 3 o, 4 w, 5 t), 1 FIGURE, 2 TELLER, 3 AGE, 4 who HOLDS it (-9), 5 WORTH, "
-                + "6 its place in THE ORDER, 7 RIVALS.");
+        edges.by(4, "Of a CARD: 0 KIND (0 l, 1 k, 2 g, 3 o, 4 w, 5 t), 1 FIGURE, 2 TELLER, 3 AGE, 4 who HOLDS it "
+                + "(-9), 5 WORTH, 6 its place in THE ORDER, 7 RIVALS.");
         LiesBoughtBack x = Edges.told("cl10;ck21;cg32;co43;cw54;ct65;cl75;cg90;", "x07;m03;bf0001;bf0001;bh0000;g71;");
         edges.dueAll(x, "card", 0, 0, 1, 2, 3, 4, 5, 0, 2);
         edges.dueAll(x, "card", 1, 1, 2, 3, 4, 5, 6, 7, 9);
@@ -64,7 +64,8 @@ final class PromiseEdges {
 
     private static void bidder() {
         edges.by(5, "Of one: 0 KIND (0 b, 1 s, 2 e, 3 r, 4 h, 5 f), 1 FIGURE, 2 PURSE, 3 BELIEVED, 4 HELD (bits).");
-        LiesBoughtBack x = Edges.told("bb0000;bs1001;be3030;br4998;bh5999;bf9017;", "cl05;".repeat(8), "g00;g75;g65;g24;");
+        LiesBoughtBack x = Edges.told("bb0000;bs1001;be3030;br4998;bh5999;bf9017;", "cl05;".repeat(8),
+                "g00;g75;g65;g24;");
         edges.dueAll(x, "bidder", 0, 0, 1, 2, 3, 4, 5);
         edges.dueAll(x, "bidder", 1, 0, 1, 3, 4, 5, 9);
         edges.dueAll(x, "bidder", 2, 0, 1, 30, 998, 999, 17);
@@ -277,7 +278,7 @@ final class PromiseEdges {
         edges.due(-9, x.purseFor(1, 6));
         edges.by(22, "FIRST; -9.");
         x = Edges.told("cg95;", "cl05;".repeat(7), "bs0000;bs0000;bs0000;bs0000;bb0009;bf0010;");
-        // By 0 the fool has 0 left, and the other has nothing against him for the others: 1 first is 2 cards, of several the least.
+        // Card 0 takes all that the fool has; behind another he has it too, so that these are 2.
         edges.due(-9, x.first(5, 0));
         edges.due(1, x.first(5, 1));
         edges.due(-9, x.first(0, 20));
@@ -448,8 +449,8 @@ final class PromiseEdges {
     }
 
     private static void count() {
-        edges.by(38, "0 CARDS, 1 BIDDERS, 2 MONTH, 3 THE PILE (bits), 4 all WORTH, 5 all BELIEVED, 6 in the ROW, 7 letters, "
-                + "11 .. 16 REFUSALS -1 .. -6.");
+        edges.by(38, "0 CARDS, 1 BIDDERS, 2 MONTH, 3 THE PILE (bits), 4 all WORTH, 5 all BELIEVED, 6 in the ROW, "
+                + "7 letters, 11 .. 16 REFUSALS -1 .. -6.");
         LiesBoughtBack x = Edges.told("cg90;".repeat(8), "m60;bs0000;bs0000;bs0000;bs0000;bs0000;bf0999;g05;");
         for (int i = 0; i < 16; i++) {
             x.row(i);
@@ -475,7 +476,8 @@ final class PromiseEdges {
             }
         }
         edges.by(38, "-9 for another what.");
-        for (int what : new int[] {-1, 8, 9, 10, 17, 18, 27, 100, -11, -16, Edges.MIN, Edges.MAX, Edges.MIN + 11, Edges.MAX - 9}) {
+        for (int what : new int[] {-1, 8, 9, 10, 17, 18, 27, 100, -11, -16, Edges.MIN, Edges.MAX, Edges.MIN + 11,
+                Edges.MAX - 9}) {
             edges.due(-9, x.count(what));
             edges.changesNothing(States::full, "count", what);
         }

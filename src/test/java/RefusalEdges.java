@@ -1,6 +1,6 @@
 /**
- * Each sentence that tells refusals: the number, the order where several apply, on a new object, one with little and one
- * with all that it can hold; and that a refused call changes nothing but how many there were.
+ * Each sentence that tells refusals: the number, the order where several apply, on a new object, one with little and
+ * one with all that it can hold; and that a refused call changes nothing but how many there were.
  */
 final class RefusalEdges {
     private static final int MIN = Edges.MIN;

@@ -18,9 +18,10 @@ final class States {
         return x;
     }
 
-    /** All CARDS and BIDDERS, cards 0 and 1 held, the others in the pile; an image of another time; letters of a hall; a row that is so. */
+    /** All CARDS, 0 and 1 held, all BIDDERS; an image of another time; letters of a hall; a row that is so. */
     static LiesBoughtBack full() {
-        LiesBoughtBack x = Edges.told("cl50;ck81;cg92;co73;cw64;ct95;cl20;cg05;m07;bb5020;bs6012;be3030;br1008;bh9040;bf7017;");
+        LiesBoughtBack x = Edges.told("cl50;ck81;cg92;co73;cw64;ct95;cl20;cg05;",
+                "m07;bb5020;bs6012;be3030;br1008;bh9040;bf7017;");
         x.image();
         Edges.tell(x, "x07;g01;g11;m01;r2;r3;r4;r5;r6;r7;");
         for (int card = 0; card < 8; card++) {

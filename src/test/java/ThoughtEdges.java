@@ -38,9 +38,10 @@ final class ThoughtEdges {
         LiesBoughtBack early = Edges.told(cards, bidders);
         LiesBoughtBack late = Edges.told("m60;".repeat(16) + "m39;", cards, bidders);
         edges.due(999, late.count(2));
-        Object[][] calls = {{"cardThen", 3, 60}, {"cardThen", 0, 1}, {"bidderThen", 0, 60, 0}, {"bidderThen", 1, 2, 1}, {"pileThen", 1},
-            {"pileThen", 60}, {"sold", 0}, {"out"}, {"ruined", 0}, {"purseFor", 2, 1}, {"first", 0, 20}, {"give", 20}, {"pool", 0, 1},
-            {"stay", 1}, {"stutter", 1, 0, 7, 20, 0}, {"stutter", 1, 0, 7, 20, 1}, {"whoTold", 0, 0}, {"lots", 20, 7, 0}, {"lots", 20, 7, 1}};
+        Object[][] calls = {{"cardThen", 3, 60}, {"cardThen", 0, 1}, {"bidderThen", 0, 60, 0}, {"bidderThen", 1, 2, 1},
+            {"pileThen", 1}, {"pileThen", 60}, {"sold", 0}, {"out"}, {"ruined", 0}, {"purseFor", 2, 1}, {"first", 0, 20},
+            {"give", 20}, {"pool", 0, 1}, {"stay", 1}, {"stutter", 1, 0, 7, 20, 0}, {"stutter", 1, 0, 7, 20, 1},
+            {"whoTold", 0, 0}, {"lots", 20, 7, 0}, {"lots", 20, 7, 1}};
         for (Object[] call : calls) {
             int[] with = new int[call.length - 1];
             for (int i = 0; i < with.length; i++) {
@@ -60,7 +61,8 @@ final class ThoughtEdges {
     }
 
     private static void inMind() {
-        edges.by(15, "In mind, n MONTHS on (0 .. 60): who HOLDS a CARD (-9); PURSE, BELIEVED of one; CARDS IN THE PILE (bits).");
+        edges.by(15, "In mind, n MONTHS on (0 .. 60): who HOLDS a CARD (-9); PURSE, BELIEVED of one; CARDS IN THE "
+                + "PILE (bits).");
         LiesBoughtBack x = Edges.told("cl50;cw51;bh0000;bb0004;");
         int[] months = {0, 1, 2, 60};
         int[] holders = {-9, 1, 1, 1};
@@ -203,10 +205,16 @@ final class ThoughtEdges {
         edges.due(0, x.ruined(1));
         edges.due(2, Edges.told("cg91;cg91;cg91;cg91;", "bf0003;bs0000;").ruined(1));
         edges.due(-9, Edges.told("bb0000;").ruined(0));
+        // From what is now: one less in the pile.
+        x = Edges.told("cg91;cg91;cg91;cg71;", "bf0999;bs0000;");
+        edges.due(1, x.ruined(1));
+        x.gives(0, 1);
+        edges.due(-9, x.ruined(1));
     }
 
     private static void purseFor() {
-        edges.by(21, "PURSE FOR: the least PURSE (0 .. 99) one must have now so that he HOLDS a CARD IN THE PILE behind the next MONTH; -9.");
+        edges.by(21, "PURSE FOR: the least PURSE (0 .. 99) one must have now so that he HOLDS a CARD IN THE PILE "
+                + "behind the next MONTH; -9.");
         LiesBoughtBack x = Edges.told("cl50;cw00;", "bb0000;bh0000;");
         edges.due(1, x.purseFor(0, 0));
         edges.due(-9, x.purseFor(1, 0));
@@ -235,8 +243,8 @@ final class ThoughtEdges {
     }
 
     private static void first() {
-        edges.by(22, "FIRST: the CARD IN THE PILE which, first in THE ORDER now, makes a told BIDDER HOLD most CARDS behind n MONTHS "
-                + "(0 .. 20), more than else, of several the least; -9.");
+        edges.by(22, "FIRST: the CARD IN THE PILE which, first in THE ORDER now, makes a told BIDDER HOLD most "
+                + "CARDS behind n MONTHS (0 .. 20), more than else, of several the least; -9.");
         LiesBoughtBack x = dearFirst();
         edges.due(-9, x.first(0, 0));
         edges.due(1, x.first(0, 1));
@@ -254,15 +262,16 @@ final class ThoughtEdges {
         x = dearFirst();
         x.swaps(0, 1);
         edges.due(-9, x.first(0, 1));
-        // By 0, 1, 2 he has only 0; 1 first leaves him 9 for 0, or a second cheap one, if that stands ahead of 0.
+        // 1 first leaves him 9 for card 0, as much as the husband bids; so does 3 first: of several the least.
         x = Edges.told("cg91;cl05;cl05;cl05;", "bf0010;bh0009;");
         edges.due(1, x.first(0, 1));
         edges.due(-9, Edges.told("bb0000;").first(0, 20));
     }
 
     private static void give() {
-        edges.by(23, "GIVE: the CARD IN THE PILE which, given to him who TOLD it now (there; nothing else changes), makes all BELIEVED "
-                + "together most behind n MONTHS (0 .. 20), more than else, of several the least; -9.");
+        edges.by(23, "GIVE: the CARD IN THE PILE which, given to him who TOLD it now (there; nothing else "
+                + "changes), makes all BELIEVED together most behind n MONTHS (0 .. 20), more than else, of "
+                + "several the least; -9.");
         // Sold to the fool, 0's lies cost him 3 and 3, a greater one 4.
         LiesBoughtBack x = Edges.told("cl50;cl50;cl52;", "bs0000;bf0999;");
         edges.due(-9, x.give(0));
@@ -280,6 +289,8 @@ final class ThoughtEdges {
         edges.due(-9, x.give(1));
         Edges.tell(x, "bs0000;");
         edges.due(2, x.give(1));
+        // Card 0 takes the purse that would buy back card 1; but its teller is not there, so that it is not given.
+        edges.due(1, Edges.told("cl05;cl50;", "bb0001;bf0001;").give(1));
         // By his own bid he is believed 2 more; the gift alone makes nobody believed more.
         edges.due(-9, Edges.told("cl50;", "bb0999;").give(20));
         edges.due(-9, Edges.told("cl50;", "bs0000;bb0000;").give(1));
@@ -287,15 +298,15 @@ final class ThoughtEdges {
     }
 
     private static void pool() {
-        edges.by(24, "POOL: with whom one had better put both PURSES together (in his own now, the other's 0) so that he HOLDS most "
-                + "behind n MONTHS (0 .. 20), more than else, of several the least; -9.");
+        edges.by(24, "POOL: with whom one had better put both PURSES together (in his own now, the other's 0) so "
+                + "that he HOLDS most behind n MONTHS (0 .. 20), more than else, of several the least; -9.");
         LiesBoughtBack x = Edges.told("cl90;", "bb9002;bb0005;bb0005;bb0001;");
         edges.due(-9, x.pool(0, 0));
         edges.due(1, x.pool(0, 1));
         edges.due(1, x.pool(0, 20));
         edges.due(-9, x.pool(1, 1));
         edges.due(0, x.pool(2, 1));
-        // With 1 of 5 he has 3, too little against 5; with 4 he has as much as the other bids, and is the least.
+        // With 1 or 2 more he has too little against 5, with 3 more as much as the other bids, and is the least.
         x.pays(1, 1);
         edges.due(2, x.pool(0, 1));
         x.pays(1, 3);
@@ -306,14 +317,16 @@ final class ThoughtEdges {
         edges.due(1, Edges.told("cl51;", "bb0000;bb0006;").pool(0, 1));
         edges.due(-9, Edges.told("cl51;", "bb0000;bb0006;").pool(1, 1));
         edges.due(-9, Edges.told("cl50;", "bb0000;").pool(0, 1));
+        // His purse is 0 then, not 1, by which he would be the least of two.
+        edges.due(0, Edges.told("cl05;", "bf0001;bf0000;").pool(1, 1));
         // Two full purses together.
         edges.due(-9, Edges.told("cg90;", "bf9999;bf9999;").pool(0, 20));
         edges.due(0, Edges.told("cg90;", "bf9999;bf9999;").pool(1, 20));
     }
 
     private static void stay() {
-        edges.by(25, "STAY: the BIDDER with whose PURSE 0 now what all others pay in the next MONTH together is least, of several the least; "
-                + "-9; that.");
+        edges.by(25, "STAY: the BIDDER with whose PURSE 0 now what all others pay in the next MONTH together is "
+                + "least, of several the least; -9; that.");
         stays(-9, -9, States.empty());
         stays(-9, -9, Edges.told("cl00;"));
         stays(0, 0, Edges.told("bb0999;"));
@@ -334,7 +347,8 @@ final class ThoughtEdges {
     }
 
     private static void richest() {
-        edges.by(26, "RICHEST: the BIDDER of most PURSE, of several the least; -9; TRUSTED likewise of most BELIEVED.");
+        edges.by(26, "RICHEST: the BIDDER of most PURSE, of several the least; -9; TRUSTED likewise of most "
+                + "BELIEVED.");
         edges.due(-9, Edges.told("cl00;").richest(0));
         edges.due(-9, Edges.told("cl00;").richest(1));
         edges.due(0, Edges.told("bb0000;bb0000;").richest(0));
@@ -363,9 +377,11 @@ final class ThoughtEdges {
     }
 
     private static void owned() {
-        LiesBoughtBack all = Edges.told("cl00;cl01;cl02;cl03;cl04;cl05;cl00;cl01;", "bb0999;bb0999;bb0999;bb0999;bb0999;bb0999;",
+        LiesBoughtBack all = Edges.told("cl00;cl01;cl02;cl03;cl04;cl05;cl00;cl01;",
+                "bb0999;bb0999;bb0999;bb0999;bb0999;bb0999;",
                 "g00;g11;g22;g33;g44;g55;g60;g71;");
-        LiesBoughtBack others = Edges.told("cl01;cl01;cl02;cl03;cl04;cl05;cl05;cl05;", "bb0000;g00;g10;g20;g30;g40;g50;g60;g70;");
+        LiesBoughtBack others = Edges.told("cl01;cl01;cl02;cl03;cl04;cl05;cl05;cl05;",
+                "bb0000;g00;g10;g20;g30;g40;g50;g60;g70;");
         LiesBoughtBack mixed = Edges.told("cl00;cl00;cl01;cl01;", "bb0000;bb0001;bb0000;g00;g11;g30;");
         edges.by(27, "OWN: CARDS (bits) HELD by those who TOLD them.");
         edges.due(0, States.empty().owned(0));
@@ -403,12 +419,14 @@ final class ThoughtEdges {
         edges.due(0, Edges.told("ck05;cl05;", "bb9999;bb9000;bs9999;bh9999;").card(0, 7));
         edges.due(1, Edges.told("ck05;cl05;", "bb9999;bb9000;bs9999;bh9999;").card(1, 7));
         edges.due(6, Edges.told("cl00;", "bf0001;".repeat(6)).card(0, 7));
+        edges.due(4, Edges.told("cg91;", "bf0999;bb0002;bs0001;be0024;bh9999;bb0000;").card(0, 7));
         // Held, too: its holder among them.
         edges.due(2, Edges.told("cl00;", "bf0001;bf0001;g01;").card(0, 7));
     }
 
     private static void two() {
-        edges.by(28, "TWO BIDDERS, a CARD IN THE PILE: each bids (1) or stays away (0) when it is AUCTIONED now, all others bid");
+        edges.by(28, "TWO BIDDERS, a CARD IN THE PILE: each bids (1) or stays away (0) when it is AUCTIONED now, "
+                + "all others bid");
         // Nobody could bid: of all pairs, which are alike, the first.
         LiesBoughtBack x = Edges.told("cl50;", "bb0000;bb0000;");
         edges.due(0, x.two(0, 1, 0));
@@ -435,8 +453,9 @@ final class ThoughtEdges {
     }
 
     private static void twoWants() {
-        edges.by(28, "each wants its WORTH less what he pays, if he HOLDS it then, else 0, 3 less if somebody else than he does and he TOLD it: "
-                + "the first pair (10 the first's and the other's) by which neither has more by another one alone; -9.");
+        edges.by(28, "each wants its WORTH less what he pays, if he HOLDS it then, else 0, 3 less if somebody "
+                + "else than he does and he TOLD it: the first pair (10 the first's and the other's) by which "
+                + "neither has more by another one alone; -9.");
         // He told it: at 10 he is 2 below 0, which is more than 3 less; at 11 he has no more by it.
         edges.due(10, against("bb9999;", 0, 9));
         edges.due(0, against("bb9999;", 0, 10));
@@ -459,8 +478,8 @@ final class ThoughtEdges {
     }
 
     private static void stutter() {
-        edges.by(29, "STUTTER: in each of n MONTHS (0 .. 7), by itself, with odds 1 in t (2 .. 20) nothing is AUCTIONED (all else is as told): "
-                + "how likely one HOLDS a CARD behind these: a fraction.");
+        edges.by(29, "STUTTER: in each of n MONTHS (0 .. 7), by itself, with odds 1 in t (2 .. 20) nothing is "
+                + "AUCTIONED (all else is as told): how likely one HOLDS a CARD behind these: a fraction.");
         LiesBoughtBack x = Edges.told("cl50;", "bb5020;bb0000;");
         chance(0, 1, x, 0, 0, 0, 2);
         chance(0, 1, x, 0, 0, 0, 20);
@@ -473,7 +492,7 @@ final class ThoughtEdges {
         chance(1, 1, x, 1, 0, 0, 2);
         chance(1, 1, x, 1, 0, 7, 20);
         chance(0, 1, x, 0, 0, 7, 20);
-        // All else is as told: it grows old, and worth 1 nobody bids for it; or purses grow, and another is rich enough.
+        // All else is as told: it grows old, and worth 1 nobody bids for it; or purses grow, and the other has enough.
         chance(1, 2, Edges.told("co05;m05;", "bb0009;"), 0, 0, 2, 2);
         chance(3, 4, Edges.told("co05;m04;", "bb0009;"), 0, 0, 2, 2);
         LiesBoughtBack poor = Edges.told("cl51;", "bb0004;bb0000;");
@@ -505,9 +524,10 @@ final class ThoughtEdges {
     }
 
     private static void whoTold() {
-        edges.by(31, "WHO TOLD IT: a ROW tells who HOLDS CARDS 0, 1, .. behind the next MONTH (9 nobody): TELLERS 0 .. 5 (bits) a told CARD "
-                + "could have by which all of it is so (no such CARD: not); KINDS (bits) of it.");
-        // Told by one of them he bids 8 and holds it; by 5, who is not there, too, nobody else does: 4 of the least.
+        edges.by(31, "WHO TOLD IT: a ROW tells who HOLDS CARDS 0, 1, .. behind the next MONTH (9 nobody): TELLERS "
+                + "0 .. 5 (bits) a told CARD could have by which all of it is so (no such CARD: not); KINDS "
+                + "(bits) of it.");
+        // Who told it bids 8 and holds it; told by 5, who is not there, all bid 4, and the least holds it.
         LiesBoughtBack x = Edges.told("cl55;", "bb0099;bb0099;bb0099;bb0099;bb0099;");
         edges.due(63, x.whoTold(0, 0));
         edges.due(63, x.whoTold(0, 1));
@@ -547,6 +567,14 @@ final class ThoughtEdges {
         rowOf(full, 9, 9, 9, 9, 9, 0);
         edges.due(63, full.whoTold(7, 1));
         edges.due(63, States.few().whoTold(1, 0));
+        // Behind one month, not two: he has nothing to bid with in the first.
+        LiesBoughtBack poor = Edges.told("cl05;", "bb0000;");
+        rowOf(poor, 9);
+        edges.due(63, poor.whoTold(0, 0));
+        edges.due(63, poor.whoTold(0, 1));
+        rowOf(poor, 0);
+        edges.due(0, poor.whoTold(0, 0));
+        edges.due(0, poor.whoTold(0, 1));
     }
 
     private static int judged(LiesBoughtBack x, int... numbers) {
@@ -557,7 +585,8 @@ final class ThoughtEdges {
     }
 
     private static void judged() {
-        edges.by(33, "A ROW of numbers (0 .. 99; 16 at most): JUDGED: WORTH of CARDS 0, 1, ..: the first that is not so (none there, too); -9.");
+        edges.by(33, "A ROW of numbers (0 .. 99; 16 at most): JUDGED: WORTH of CARDS 0, 1, ..: the first that is "
+                + "not so (none there, too); -9.");
         LiesBoughtBack x = Edges.told("cw00;cl00;cg90;cl90;ck00;co10;ct50;cg00;");
         edges.due(-9, judged(x));
         edges.due(-9, judged(x, 0));
@@ -575,15 +604,15 @@ final class ThoughtEdges {
     }
 
     private static void lots() {
-        edges.by(35, "LOTS with a seed z: n halls (1 .. 20), each from now: PURSE of each, by numbers, by a DRAW below 100, all CARDS IN THE PILE; "
-                + "then 2 MONTHS: HELD of all together; BELIEVED of all.");
+        edges.by(35, "LOTS with a seed z: n halls (1 .. 20), each from now: PURSE of each, by numbers, by a DRAW "
+                + "below 100, all CARDS IN THE PILE; then 2 MONTHS: HELD of all together; BELIEVED of all.");
         for (int z : new int[] {0, 1, -1, Edges.MIN, Edges.MAX}) {
             edges.due(0, States.empty().lots(20, z, 0));
             edges.due(0, States.empty().lots(20, z, 1));
             LiesBoughtBack nobody = Edges.told("cl00;".repeat(8));
             edges.due(0, nobody.lots(20, z, 0));
             LiesBoughtBack held = Edges.told("cw00;cl00;", "bb0000;g00;g10;");
-            // The white one, which nobody bids for, is in the pile again; the other is bought back in the second month at last.
+            // The white one, which nobody bids for, is in the pile again; the other is bought back.
             edges.due(1, held.lots(1, z, 0));
             edges.due(20, held.lots(20, z, 0));
             edges.due(52, held.lots(1, z, 1));
@@ -592,7 +621,7 @@ final class ThoughtEdges {
             edges.due(54, believed.lots(1, z, 1));
             edges.due(108, believed.lots(2, z, 1));
         }
-        // By this seed both draws are 0, so that nothing is sold in the first month, 6 in the second, not yet the last 2.
+        // By this seed both draws are 0: nothing is sold in the first month, 6 in the second, not yet the last 2.
         edges.due(6, slow().lots(1, 45897, 0));
         // As old as now: worth 2 and half of it 1 at 5; one month later, or behind a draw of 0, nothing.
         edges.due(1, Edges.told("co05;m05;", "bb0000;").lots(1, 0, 0));
@@ -601,8 +630,9 @@ final class ThoughtEdges {
     }
 
     private static void draws() {
-        edges.by(35, "A DRAW below m: z becomes z times 1664525 and 1013904223 (an int); (z without its sign's bit by 256, cut) modulo m.");
-        // Seeds by which the two have 0 and 0, 0 and 1, .. in their purses: 0 bids 13 at most and has it back, or 1 bids 9 at most.
+        edges.by(35, "A DRAW below m: z becomes z times 1664525 and 1013904223 (an int); (z without its sign's "
+                + "bit by 256, cut) modulo m.");
+        // By these seeds the two have 0 and 0, 0 and 1, .. in their purses; they bid 13 and 9 at most.
         LiesBoughtBack x = Edges.told("cl50;", "bb5020;br0020;");
         int[] seeds = {45897, 3297, 22763, 7992, 2808, 1830, 2176, 4719, 9700, 3882, 73, 0, -1, Edges.MAX, Edges.MIN};
         int[] believed = {102, 97, 102, 102, 97, 97, 102, 102, 102, 97, 102, 102, 102, 102, 102};
@@ -634,7 +664,6 @@ final class ThoughtEdges {
         x.on();
         LiesBoughtBack y = States.full();
         y.on();
-        Edges.tell(y, "bb0000;");
         for (int card = 7; card >= 0; card--) {
             y.swaps(card, (card + 1) % 8);
             y.gives(card, card % 6);
@@ -642,13 +671,11 @@ final class ThoughtEdges {
         for (int bidder = 0; bidder < 6; bidder++) {
             y.pays(bidder, 999 - bidder);
             y.turn(bidder, 5 - bidder, 9 - bidder);
-            y.lots(20, bidder, 0);
         }
         y.returns(0);
         y.sells(0);
         y.returns(1);
         y.months(60);
-        Edges.letters(y, "x12;p5007;");
         edges.due(7, y.on());
         edges.dueAlike(x, y);
         // An image of nothing; later ones instead of it; more than once.
@@ -679,7 +706,7 @@ final class ThoughtEdges {
     private static void fractions() {
         edges.by(30, "Fractions are told in least terms; 0 as 0 by 1.");
         for (int purse = 0; purse <= 12; purse++) {
-            LiesBoughtBack x = Edges.told("bb0000;bb0000;bb0000;bb0000;bb0000;bb00" + String.format("%02d", purse) + ";");
+            LiesBoughtBack x = Edges.told("bb0000;".repeat(5), "bb00" + String.format("%02d", purse) + ";");
             int common = purse % 6 == 0 ? 6 : purse % 3 == 0 ? 3 : purse % 2 == 0 ? 2 : 1;
             edges.due(purse / common, x.mean(0));
             edges.due(6 / common, x.mean(1));
