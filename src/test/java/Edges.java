@@ -6,8 +6,10 @@ import java.nio.file.Path;
 import java.util.ArrayList;
 import java.util.Arrays;
 import java.util.LinkedHashMap;
+import java.util.LinkedHashSet;
 import java.util.List;
 import java.util.Map;
+import java.util.Set;
 
 /**
  * Answers that are due by a named sentence of a named promise. What is named must stand in the document, and at the
@@ -22,7 +24,7 @@ final class Edges {
 
     /** The document's sentences by promise; those of its Terms by 0. */
     private final Map<Integer, List<String>> document = new LinkedHashMap<>();
-    private final List<String> asked = new ArrayList<>();
+    private final Set<String> asked = new LinkedHashSet<>();
     private String by = "";
     private int answers;
     private int answersOfSentence;
