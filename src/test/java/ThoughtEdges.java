@@ -258,6 +258,13 @@ final class ThoughtEdges {
         edges.due(2, x.first(0, 1));
         x.gives(2, 1);
         edges.due(-9, x.first(0, 1));
+        // The dear one first by the order: then 0 is the least of those that come behind it.
+        x = Edges.told("cl05;cg91;cl05;x01;", "bf0010;bh0009;");
+        edges.due(0, x.first(0, 1));
+        x.gives(0, 1);
+        edges.due(2, x.first(0, 1));
+        // 2 first takes 1 from the fool, so that the husband has enough for 0 and for 1, who stand behind it then.
+        edges.due(2, Edges.told("cl40;cg80;cl45;", "bh0006;bf0003;").first(0, 1));
         // First in the order already, so that nothing is more than else.
         x = dearFirst();
         x.swaps(0, 1);
@@ -354,13 +361,16 @@ final class ThoughtEdges {
         edges.due(0, Edges.told("bb0000;bb0000;").richest(0));
         edges.due(5, Edges.told("bb0998;bb0000;bb0998;bb0998;bb0998;bb0999;").richest(0));
         edges.due(1, Edges.told("bb0998;bb0999;bb0999;").richest(0));
+        edges.due(1, Edges.told("bb0998;bb0999;bb0998;bb0000;").richest(0));
+        edges.due(0, Edges.told("bb0002;bb0001;bb0000;bb0001;").richest(0));
         LiesBoughtBack x = Edges.told("cl00;cw55;", "bs0000;bs0000;bs0000;bs0000;bs0000;br0999;g00;");
         edges.due(0, x.richest(1));
         x.turn(5, 0, 1);
         x.sells(1);
         edges.due(52, x.bidder(5, 3));
         edges.due(5, x.richest(1));
-        // All believed 0, by greatest lies that another has.
+        edges.due(0, Edges.told("cl00;", "bb0009;bs0000;bs0000;m01;").richest(1));
+        // Believed 0, by greatest lies that another has.
         x = Edges.told("cg90;cg90;cg90;cg90;", "bs0000;bf0999;m01;");
         edges.due(0, x.bidder(0, 3));
         edges.due(1, x.richest(1));
@@ -372,6 +382,7 @@ final class ThoughtEdges {
         edges.due(0, Edges.told("cw00;cw90;").richest(2));
         edges.due(7, Edges.told("cg80;".repeat(7), "cg90;").richest(2));
         edges.due(1, Edges.told("cg80;cg90;cg90;").richest(2));
+        edges.due(1, Edges.told("cg80;cg90;cg80;cw00;").richest(2));
         // Held or not.
         edges.due(1, Edges.told("cl00;cl90;bb0000;g10;").richest(2));
     }
