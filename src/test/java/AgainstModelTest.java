@@ -35,7 +35,7 @@ public final class AgainstModelTest {
                 System.out.println("run " + run + ": " + test.told);
             }
         }
-        if (args.length > 2) {
+        if (Arrays.asList(args).contains("verbose")) {
             usual.forEach((name, n) -> System.out.println(name + " not refused, not -9: " + n));
         }
         if (wrong > 0) {

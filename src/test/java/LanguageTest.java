@@ -3,7 +3,9 @@ import java.nio.charset.StandardCharsets;
 import java.nio.file.Files;
 import java.nio.file.Path;
 import java.util.Arrays;
+import java.util.Map;
 import java.util.Set;
+import java.util.TreeMap;
 import java.util.TreeSet;
 import java.util.regex.Matcher;
 import java.util.regex.Pattern;
@@ -46,6 +48,9 @@ public final class LanguageTest {
         face(code);
         indexes(code);
         lengths(code);
+        library(code);
+        sizes(code);
+        chains(code);
         if (wrong > 0) {
             System.exit(1);
         }
@@ -114,6 +119,80 @@ public final class LanguageTest {
                 head = "";
             }
         }
+    }
+
+    private static void library(String code) {
+        Matcher use = Pattern.compile("\\b([A-Z]\\w*)\\.(\\w+)").matcher(code);
+        while (use.find()) {
+            if (!use.group().matches("Math\\.(min|max)|Integer\\.bitCount|System\\.arraycopy|\\w+_KINDS\\.indexOf")) {
+                fault("what LANGUAGE.md does not list: " + use.group());
+            }
+        }
+        Set<String> own = names(code, "private (?:static )?[\\w\\[\\]]+ (\\w+)\\(");
+        for (String called : names(code, "\\b[a-z]\\w*\\.(\\w+)\\(")) {
+            if (!own.contains(called) && !called.matches("length|charAt|isEmpty")) {
+                fault("what LANGUAGE.md does not list: " + called);
+            }
+        }
+        Matcher type = Pattern.compile("\\b(double|float|ArrayList|List|Iterator|StringBuilder|Integer|Long) \\w").matcher(code);
+        while (type.find()) {
+            fault("a type that the program does without: " + type.group());
+        }
+    }
+
+    /** Fields beside the constants, and classes. */
+    private static void sizes(String code) {
+        int hall = code.indexOf("class Hall");
+        for (String part : new String[] {code.substring(0, hall), code.substring(hall)}) {
+            long fields = Pattern.compile("(?m)^ {4,8}private (?!static)[\\w\\[\\] ]+;").matcher(part).results().count();
+            if (fields < 5 || fields > 20) {
+                fault(fields + " fields in one class");
+            }
+        }
+        if (Pattern.compile("\\b(class|enum|record|interface) \\w").matcher(code).results().count() != 2) {
+            fault("another class");
+        }
+    }
+
+    /** No method calls itself in the end, and calls go at most eight deep. */
+    private static void chains(String code) {
+        Map<String, String> bodies = new TreeMap<>();
+        String head = "^( {4,8})(?:public|private) (?:static )?[\\w\\[\\]]+ (\\w+)\\([^)]*\\) \\{";
+        Matcher method = Pattern.compile("(?ms)" + head + "(.*?)^\\1\\}").matcher(code);
+        while (method.find()) {
+            if (bodies.put(method.group(2), method.group(3)) != null) {
+                fault("two methods are named " + method.group(2));
+            }
+        }
+        if (bodies.size() < 80) {
+            fault("only " + bodies.size() + " methods were found");
+        }
+        Map<String, Integer> depths = new TreeMap<>();
+        for (String name : bodies.keySet()) {
+            int depth = depth(name, bodies, depths, 0);
+            if (depth > 8) {
+                fault(name + " calls " + depth + " deep");
+            }
+        }
+    }
+
+    private static int depth(String name, Map<String, String> bodies, Map<String, Integer> depths, int open) {
+        if (open > 20) {
+            return open;
+        }
+        Integer known = depths.get(name);
+        if (known != null) {
+            return known;
+        }
+        int deepest = 0;
+        Matcher call = Pattern.compile("\\b(\\w+)\\(").matcher(bodies.get(name));
+        while (call.find()) {
+            if (bodies.containsKey(call.group(1))) {
+                deepest = Math.max(deepest, depth(call.group(1), bodies, depths, open + 1));
+            }
+        }
+        depths.put(name, deepest + 1);
+        return deepest + 1;
     }
 
     private static Set<String> names(String code, String pattern) {
